@@ -22,6 +22,8 @@ public final class TeaTrolley {
     private static final int MOST_BUNS = 999;
     private static final int MOST_WOBBLE = 9;
     private static final int MOST_DECADES = 60;
+    private static final int FROST = 5;
+    private static final int DOOR = 6;
 
     private final Tape tape = new Tape();
     private final OfficeText officeText = new OfficeText(tape);
@@ -154,15 +156,15 @@ public final class TeaTrolley {
     }
 
     public int room(int room, int what) throws NoSuchElementException {
-        if (!isRoom(room) || what < 0 || what > 6) {
+        if (!isRoom(room) || what < 0 || what > DOOR) {
             throw new NoSuchElementException("no such room or trait");
         }
         switch (what) {
             case Office.WORKERS:
                 return now.workers[room];
-            case 5:
+            case FROST:
                 return now.frost[room];
-            case 6:
+            case DOOR:
                 return has(now.doors, room) ? 1 : 0;
             default:
                 return office.trait(room, what);
@@ -715,7 +717,7 @@ public final class TeaTrolley {
     }
 
     private static int within(int v, int least, int most) {
-        return Math.max(least, Math.min(most, v));
+        return v < least ? least : v > most ? most : v;
     }
 
     private int[] heldRound() {
@@ -792,7 +794,7 @@ public final class TeaTrolley {
 
         int pastBlanks(int from) {
             int i = from;
-            while (i < length && at(i) == BLANK) {
+            while (i < length && bytes[i] == BLANK) {
                 i++;
             }
             return i;
@@ -800,11 +802,11 @@ public final class TeaTrolley {
 
         /** How many digits stand there, counted up to most. */
         int digits(int from, int most) {
-            int found = 0;
-            while (found < most && at(from + found) >= '0' && at(from + found) <= '9') {
-                found++;
+            int i = from;
+            while (i < length && i < from + most && bytes[i] >= '0' && bytes[i] <= '9') {
+                i++;
             }
-            return found;
+            return i - from;
         }
 
         int number(int from, int digits) {
@@ -1577,6 +1579,7 @@ public final class TeaTrolley {
 
     /** Tries rows of rooms in rising order, so that of several the least is found first. */
     static final class Search {
+        private static final int NEVER = 1000000;
         private final Ways ways;
         private boolean bestKnown = false;
         private int rowLength = 0;
@@ -1637,24 +1640,30 @@ public final class TeaTrolley {
 
         void findShortest(int rooms) {
             shortRow = NONE;
-            shortMinutes = NONE;
+            shortMinutes = NEVER;
             rowLength = Integer.bitCount(rooms);
             tryShort(rooms, Office.LIFT, 0, ways.now.heat, ways.now.cups, 0);
+            if (shortRow == NONE) {
+                shortMinutes = NONE;
+            }
         }
 
         /** Each call takes a room from those that remain, so it goes eight deep at most. */
         private void tryShort(int remain, int from, int leaves, int heat, int cups, int row) {
+            if (isHopeless(remain, from, leaves, heat, cups)) {
+                return;
+            }
             int been = rowLength - Integer.bitCount(remain);
             for (int room = 0; room < ways.office.rooms; room++) {
+                if (!has(remain, room)) {
+                    continue;
+                }
                 int comes = leaves + ways.minutes(from, room);
-                if (!has(remain, room) || shortRow != NONE && comes >= shortMinutes) {
-                    continue;
-                }
                 int there = ways.heatBehind(from, room, heat, cups, been, 0);
-                if (!allHot(room, there, cups)) {
+                int others = remain & ~(1 << room);
+                if (!allHot(room, there, cups) || comes >= shortMinutes) {
                     continue;
                 }
-                int others = remain & ~(1 << room);
                 if (others == 0) {
                     shortMinutes = comes;
                     shortRow = 10 * row + room;
@@ -1663,6 +1672,17 @@ public final class TeaTrolley {
                     tryShort(others, room, comes + stops, there, cups - ways.now.workers[room], 10 * row + room);
                 }
             }
+        }
+
+        /** Whether some room can't have it hot any more, or not sooner than all have it by the row found. */
+        private boolean isHopeless(int remain, int from, int leaves, int heat, int cups) {
+            for (int room = 0; room < ways.office.rooms; room++) {
+                if (has(remain, room) && (leaves + ways.minutes(from, room) >= shortMinutes
+                        || !allHot(room, ways.mostHeat(from, room, heat), cups))) {
+                    return true;
+                }
+            }
+            return false;
         }
 
         private boolean allHot(int room, int heat, int cups) {
@@ -1681,7 +1701,8 @@ public final class TeaTrolley {
         private final int[] earliest = new int[MOST_ROOMS];
         private final int[] latest = new int[MOST_ROOMS];
         private final int[] yes = new int[MOST_ROOMS];
-        private int bound = 0;
+        /** The way there and the stop, from wherever it comes. */
+        private final int[] longest = new int[MOST_ROOMS];
         private int minute = NONE;
         int told = 0;
 
@@ -1691,7 +1712,6 @@ public final class TeaTrolley {
 
         void forget() {
             told = 0;
-            bound = 0;
             for (int room = 0; room < MOST_ROOMS; room++) {
                 earliest[room] = 0;
                 latest[room] = NEVER;
@@ -1707,19 +1727,31 @@ public final class TeaTrolley {
             } else {
                 earliest[room] = Math.max(earliest[room], t + 1);
             }
-            bound |= 1 << room;
             told++;
             return true;
         }
 
         int fitting() {
-            minute = NONE;
+            begin(NONE);
             return countRows(ways.office.everyRoom(), Office.LIFT, 0);
+        }
+
+        /** Makes ready to count rows, and those among them by which it has come by minute t. */
+        private void begin(int t) {
+            minute = t;
+            for (int room = 0; room < ways.office.rooms; room++) {
+                yes[room] = 0;
+                longest[room] = ways.minutes(Office.LIFT, room);
+                for (int from = 0; from < ways.office.rooms; from++) {
+                    longest[room] = Math.max(longest[room], ways.minutes(from, room));
+                }
+                longest[room] += ways.office.trait(room, Office.STOPS);
+            }
         }
 
         /** The i-th row that fits, or NONE. */
         int fittingRow(int i) {
-            minute = NONE;
+            begin(NONE);
             int remain = ways.office.everyRoom();
             int from = Office.LIFT;
             int leaves = 0;
@@ -1748,10 +1780,7 @@ public final class TeaTrolley {
 
         /** The room by which yes and no are least apart at minute t, or NONE: nothing fits. */
         int evenest(int t) {
-            minute = t;
-            for (int room = 0; room < MOST_ROOMS; room++) {
-                yes[room] = 0;
-            }
+            begin(t);
             int rows = countRows(ways.office.everyRoom(), Office.LIFT, 0);
             if (rows == 0) {
                 return NONE;
@@ -1767,15 +1796,22 @@ public final class TeaTrolley {
 
         /** Each call takes a room from those that remain, so it goes eight deep at most. */
         private int countRows(int remain, int from, int leaves) {
-            if (remain == 0) {
-                return 1;
+            boolean tooEarly = false;
+            int firstLimit = NEVER;
+            int end = leaves;
+            for (int room = 0; room < ways.office.rooms; room++) {
+                if (has(remain, room)) {
+                    int soonest = leaves + ways.minutes(from, room);
+                    if (soonest > latest[room]) {
+                        return 0;
+                    }
+                    tooEarly |= soonest < earliest[room];
+                    firstLimit = Math.min(firstLimit, latest[room]);
+                    end += longest[room];
+                }
             }
-            if ((remain & bound) == 0 && minute < leaves) {
-                // nothing is asked of those that remain: every order of them fits
-                return ORDERS[Integer.bitCount(remain & 255)];
-            }
-            if (tooLate(remain, from, leaves)) {
-                return 0;
+            if (!tooEarly && end <= firstLimit && (minute < leaves || minute >= end)) {
+                return countOrders(remain, minute >= end);
             }
             int rows = 0;
             for (int room = 0; room < ways.office.rooms; room++) {
@@ -1784,13 +1820,13 @@ public final class TeaTrolley {
             return rows;
         }
 
-        private boolean tooLate(int remain, int from, int leaves) {
-            for (int room = 0; room < ways.office.rooms; room++) {
-                if (has(remain, room) && leaves + ways.minutes(from, room) > latest[room]) {
-                    return true;
-                }
+        /** Of rooms of which nothing is asked any more: every order of them fits, and all or none are a yes. */
+        private int countOrders(int remain, boolean allCome) {
+            int rows = ORDERS[Integer.bitCount(remain & 255)];
+            for (int room = 0; room < MOST_ROOMS && allCome; room++) {
+                yes[room] += has(remain, room) ? rows : 0;
             }
-            return false;
+            return rows;
         }
 
         private int countFrom(int room, int remain, int from, int leaves) {
