@@ -65,6 +65,11 @@ public final class ActTest {
             frosts(x, 0, Math.min(9, i));
             Due.is("ice from 3 on", x.all(5), i < 3 ? 0 : 2);
         }
+        x.hold(-1);
+        x.day();
+        x.day();
+        x.day();
+        Due.is("ice all over", x.all(5), 3);
     }
 
     private static void doors() {
@@ -253,6 +258,11 @@ public final class ActTest {
                 x.undo();
             }
         }
+        Due.tell(x, 2, "0", 0);
+        Due.is("none holds so far", x.count(5), -1);
+        x.decades(1, -5);
+        Due.is("the one there is", x.count(5), 0);
+        x.undo();
         // all draws are below 10 and none is below 0: PACE stays within its bounds
         x.wobble(0);
         x.decades(9, 1);

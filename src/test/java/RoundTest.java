@@ -99,6 +99,13 @@ public final class RoundTest {
         Due.is("no round", x.crumbs(0, -1), 8);
         Due.is("the last", x.crumbs(0, 7), 7);
         Due.is("no office", new TeaTrolley().crumbs(0, -1), -1);
+        TeaTrolley two = Due.office("dw0;dx2w3;dx5w3", "012");
+        Due.is("all that have workers", two.crumbs(12, 0), 6);
+        Due.is("alike", two.crumbs(9, -1), 2);
+        Due.is("rising", two.crumbs(9, 0), 2);
+        Due.is("rising", two.crumbs(9, 1), 4);
+        two.move(1, 0, 1);
+        Due.is("all", two.crumbs(12, 0), 7);
     }
 
     private static void shares() {
@@ -251,7 +258,20 @@ public final class RoundTest {
             cold += part * 7 / 100;
         }
         Due.is("by the law", x.odds(2, 7), 1000000 - cold);
-        Due.is("cups and rooms of the way count", x.odds(1, 7), 1000000);
+        Due.is("not on the ways ahead", x.odds(1, 7), 1000000);
+        // 20 cups, 18 behind the first room, 16 behind the second one
+        Due.tell(x, 1, "y:m>2&k=20?1;y:m>2&k=18?2;y:m>2&k=16?4;y:0", 1);
+        x.law(1);
+        int[][] heats = {{60, 93 * 93 * 93}, {59, 93 * 93 * 93 + 7 * 93 * 93},
+            {58, 93 * 93 * 93 + 2 * 7 * 93 * 93}, {57, 93 * 93 * 93 + 2 * 7 * 93 * 93 + 7 * 7 * 93},
+            {56, 93 * 93 * 93 + 3 * 7 * 93 * 93 + 7 * 7 * 93}, {55, 1000000 - 7 * 7 * 93 - 7 * 7 * 7},
+            {54, 1000000 - 7 * 7 * 7}, {53, 1000000}};
+        for (int[] h : heats) {
+            TeaTrolley y = Due.office("sp2;dx1;dx2;dx3n" + h[0], "012");
+            Due.tell(y, 1, "y:m>2&k=20?1;y:m>2&k=18?2;y:m>2&k=16?4;y:0", 0);
+            y.law(0);
+            Due.is("cups left on each way, " + h[0], y.odds(2, 7), h[1]);
+        }
     }
 
     private static void season() {

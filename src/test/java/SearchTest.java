@@ -5,6 +5,7 @@ public final class SearchTest {
     public static void main(String[] args) {
         best();
         bestAsItIsNow();
+        byLaw();
         shortest();
         seen();
         fits();
@@ -62,6 +63,32 @@ public final class SearchTest {
         Due.is("another office", x.best(1), 4);
     }
 
+    private static void byLaw() {
+        // it cools only on the second way, by 31: the room that wants 30 must be the first one
+        TeaTrolley x = Due.office("sc9;dx9w1n29;df3x9w3n30;df2x9w2n29");
+        Due.tell(x, 1, "y:n=1?31;y:0", 0);
+        x.law(0);
+        Due.is("rooms behind it count", x.best(0), 102);
+        Due.is("all", x.best(1), 6);
+        // 18, 21 and 24 minutes with two stops ahead of the last; by 102 it is 71
+        Due.is("rooms behind it count", x.shortest(7, 0), 120);
+        Due.is("rooms behind it count", x.shortest(7, 1), 65);
+        Due.is("with two rooms, too", x.shortest(3, 0), 10);
+        Due.tell(x, 1, "y:k=19?31;y:k=17?32;y:0", 1);
+        x.law(1);
+        Due.is("cups left count", x.best(0), 210);
+        Due.is("cups left count", x.best(1), 6);
+        Due.is("cups left count", x.shortest(3, 0), -1);
+        // no law cools by nothing: far away and hot
+        Due.tell(x, 1, "y:0", 2);
+        x.law(2);
+        Due.is("not cooled", x.best(1), 6);
+        Due.is("not cooled", x.shortest(7, 0), 21);
+        x.law(-1);
+        Due.is("cooled", x.best(1), 0);
+        Due.is("cooled", x.shortest(1, 0), -1);
+    }
+
     private static void shortest() {
         TeaTrolley x = Due.office(OFFICE);
         int[][] due = {{5, 2, 12}, {3, -1, -1}, {8, 3, 14}, {10, 13, 29}, {1, 0, 4}, {2, 1, 12}, {4, 2, 10}};
@@ -85,6 +112,11 @@ public final class SearchTest {
         Due.is("of several the least", tie.shortest(3, 0), 1);
         // 3, one to stop, and 6; or 3, one to stop, and 6
         Due.is("minutes", tie.shortest(3, 1), 10);
+        TeaTrolley one = Due.office("dx5w1n55;dx6w1n55;dx7w1n54");
+        Due.is("just hot", one.shortest(1, 1), 5);
+        Due.is("just not", one.shortest(2, 1), -1);
+        Due.is("just not", one.shortest(2, 0), -1);
+        Due.is("both", one.shortest(5, 0), -1);
         TeaTrolley stop = Due.office("sc0;dx3s9;df1x0s1");
         Due.is("the long stop last", stop.shortest(3, 0), 10);
         Due.is("minutes", stop.shortest(3, 1), 10);
@@ -148,6 +180,16 @@ public final class SearchTest {
         }
         Due.is("below", x.ask(-1), -1);
         Due.is("above", x.ask(1000), -1);
+        Due.is("rows again", x.fits(1), 10);
+        // 012 at 1 3 5, 021 at 1 6 4, 102 at 4 2 7, 120 at 7 2 4, 201 at 6 8 3, 210 at 7 5 3
+        TeaTrolley three = Due.office("dx1s1;dx2s1;dx3s1");
+        Due.is("2, 0 and 0 of 6", three.ask(1), 0);
+        Due.is("2, 2 and 0 of 6", three.ask(2), 0);
+        Due.is("2, 3 and 2 of 6", three.ask(3), 1);
+        Due.is("3, 3 and 4 of 6", three.ask(4), 0);
+        Due.is("4, 5 and 5 of 6", three.ask(6), 0);
+        Due.is("6, 5 and 6 of 6", three.ask(7), 1);
+        Due.is("all", three.ask(8), 0);
         x.seen(1, 7, true);
         Due.is("one fits: all alike", x.ask(2), 0);
         x.seen(1, 7, false);

@@ -55,8 +55,46 @@ public final class TextTest {
         Due.is("end 230", x.end(230), true);
         Due.is("20 more are too many", x.feed(0x31313131, 0x31313131, 0x31313131, 0x31313131, 0x31313131), -1);
         Due.is("230 as before", x.count(3), 230);
+        int[][] many = {{0x31313131, 0x31313131, 0x31313100, 0, 0}, {0, 0x31313131, 0x31313131, 0x31313100, 0},
+            {0, 0, 0x31313131, 0x31313131, 0x00313131}, {0x00313131, 0, 0, 0x31313131, 0x31313131},
+            {0x31313131, 0x31310031, 0, 0, 0x31313131}};
+        for (int[] m : many) {
+            Due.is("11 more are too many", x.feed(m[0], m[1], m[2], m[3], m[4]), -1);
+            Due.is("230 as before", x.count(3), 230);
+        }
         Due.is("10 more are not", x.feed(0x33303030, 0x30303030, 0x30300000, 0, 0), 240);
         Due.is("a digit twice, far behind", x.fault(2), 232);
+        longTexts();
+    }
+
+    /** Texts that fill the tape. */
+    private static void longTexts() {
+        StringBuilder sum = new StringBuilder("y:0");
+        while (sum.length() < 239) {
+            sum.append("+1");
+        }
+        Due.fault(1, sum.toString(), -1);
+        TeaTrolley x = Due.office("sh99;dx0w1;dx9w1", "01");
+        StringBuilder ones = new StringBuilder("y:n=0?0;y:0");
+        for (int i = 0; i < 60; i++) {
+            ones.append("+1");
+        }
+        Due.tell(x, 1, ones.toString(), 0);
+        x.law(0);
+        Due.is("sixty ones", x.comes(1, 1), 39);
+        StringBuilder clauses = new StringBuilder("y:n=0?0");
+        while (clauses.length() < 230) {
+            clauses.append(";y:m=1?1");
+        }
+        Due.tell(x, 1, clauses + ";y:77", 1);
+        x.law(1);
+        Due.is("the last clause", x.comes(1, 1), 22);
+        StringBuilder rooms = new StringBuilder();
+        for (int i = 0; i < 8; i++) {
+            rooms.append("df").append(i % 4).append("x0").append(i).append("w09n99s09;");
+        }
+        Due.tell(x, 0, rooms + "sh99c9p5k60", 8);
+        Due.is("workers", x.count(8), 72);
     }
 
     private static void officeFaults() {
@@ -255,6 +293,7 @@ public final class TextTest {
         Due.is("nothing came of it", x.count(0) + x.count(1) + x.count(2), 0);
         for (int i = 0; i < 4; i++) {
             Due.tell(x, 1, "y:" + i, i);
+            Due.is("empty", x.count(3), 0);
             Due.tell(x, 2, " " + (7 - i) + " " + i, i);
             Due.is("empty", x.count(3), 0);
         }
@@ -279,12 +318,17 @@ public final class TextTest {
         Due.is("wobble", x.wobble(4), true);
         Due.is("seen", x.seen(0, 5, true), 1);
         Due.is("day", x.day(), 6);
+        x.hold(-1);
+        x.day();
+        x.hold(0);
+        Due.is("frost ahead", x.room(0, 5), 1);
+        Due.is("seen", x.seen(1, 99, false), 2);
         Due.is("shut", x.shut(1), true);
-        Due.is("image", x.image(), 1);
+        Due.is("image", x.image(), 2);
         Due.tell(x, 0, "d;d", -1);
         Due.is("a fault changes nothing", x.count(0), 3);
-        Due.is("a fault changes nothing", x.count(6), 1);
-        Due.is("a fault changes nothing", x.count(10), 1);
+        Due.is("a fault changes nothing", x.count(6), 2);
+        Due.is("a fault changes nothing", x.count(10), 2);
         Due.tell(x, 0, "dw1;dx9w8", 2);
         int[] counts = {2, 1, 1, 0, 0, 0, 0, 0, 9, 4, 0, 0, 0, 0};
         for (int i = 0; i < counts.length; i++) {
@@ -296,6 +340,7 @@ public final class TextTest {
         Due.is("fits", x.fits(-1), 2);
         Due.is("rules untold", x.rule(0), 60);
         Due.is("rules untold", x.rule(2), 1);
+        Due.is("frost", x.room(0, 5), 0);
         Due.is("frost", x.room(1, 5), 0);
         Due.is("the law and the round still hold", x.comes(0, 1), 58);
         Due.is("room 2 is passed over", x.comes(1, 0), 9);
