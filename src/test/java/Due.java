@@ -2,8 +2,14 @@
 final class Due {
     private static int right = 0;
     private static int wrong = 0;
+    private static String where = "";
 
     private Due() {
+    }
+
+    /** What stands ahead of each wrong answer that is printed from here on. */
+    static void where(String words) {
+        where = words;
     }
 
     static void is(String call, long got, long want) {
@@ -11,7 +17,7 @@ final class Due {
             right++;
         } else {
             wrong++;
-            System.out.println(call + " answered " + got + ", due is " + want);
+            System.out.println(where + call + " answered " + got + ", due is " + want);
         }
     }
 
@@ -75,6 +81,20 @@ final class Due {
         tell(x, 2, round, 0);
         is("hold(0)", x.hold(0), true);
         return x;
+    }
+
+    /** One more law, which holds. */
+    static void law(TeaTrolley x, String text) {
+        int number = x.count(1);
+        tell(x, 1, text, number);
+        is("law(" + number + ")", x.law(number), true);
+    }
+
+    /** One more round, which holds. */
+    static void hold(TeaTrolley x, String text) {
+        int number = x.count(2);
+        tell(x, 2, text, number);
+        is("hold(" + number + ")", x.hold(number), true);
     }
 
     /** 1: it throws as the document says; 0: it answers. */
