@@ -26,6 +26,8 @@ final class EdgeQuestions {
         roundAsAWhole();
         places();
         happy();
+        eightRooms();
+        allOfEightRooms();
         constants();
     }
 
@@ -69,6 +71,7 @@ final class EdgeQuestions {
         x.fill(1, 1);
         Due.is("cups as they are now", x.comes(0, 2), 1);
         bestAsItIsNow();
+        fitsAsItIsNow();
     }
 
     /** What most have hot is asked for anew behind all that can change it. */
@@ -102,6 +105,20 @@ final class EdgeQuestions {
         Due.is("by none", x.best(1), 8);
         Due.tell(x, 0, "dw1;dx2w1", 2);
         Due.is("another office", x.best(1), 2);
+    }
+
+    private static void fitsAsItIsNow() {
+        // 01: at 1 and 5; 10: at 8 and 4; by pace 2 at 2 and 9; at 15 and 8
+        TeaTrolley x = Due.office("d;dx4");
+        x.seen(0, 9, true);
+        Due.is("both", x.fits(-1), 2);
+        x.wheels(false);
+        Due.is("no second row", x.fits(1), -1);
+        Due.is("the first", x.fits(0), 1);
+        Due.is("one", x.fits(-1), 1);
+        Due.is("0 has come by it", x.ask(2), 0);
+        x.undo();
+        Due.is("the second again", x.fits(1), 10);
     }
 
     private static void comes() {
@@ -327,6 +344,7 @@ final class EdgeQuestions {
             Due.is("no more of " + i, x.fits(all), -1);
         }
         Listed.check("dx1s1;df1x2s0;dx4s3");
+        Listed.check("dx3;dx0;dx5");
         Listed.check("sp2;dx1s1;df1x2s0;dx4s3;df3x9s9", 2, 30, 1, 0, 12, 0);
         Listed.check("sp5;dx1s0;df1x2s0;dx4s0;df3x0s0;df2x7s9", 1, 200, 1);
         Listed.check("sp5;dx1s0;df1x2s0;dx4s0;df3x0s0;df2x7s9", 1, 100, 0, 3, 230, 1);
@@ -352,6 +370,7 @@ final class EdgeQuestions {
         TeaTrolley y = Due.office("dx1s1;dx2s1;dx3s1");
         Due.is("none has come", y.ask(0), 0);
         Due.is("all have", y.ask(999), 0);
+        Due.is("at minute 0 it is at the lift, and there is 1", Due.office("dx3;dx0").ask(0), 1);
         Due.is("2, 2 and 0 of 6", y.ask(2), 0);
         Due.is("3, 3 and 4 of 6", y.ask(4), 0);
         Due.is("4, 5 and 5 of 6", y.ask(6), 0);
@@ -627,6 +646,75 @@ final class EdgeQuestions {
         Due.is("none of its rooms is there", x.happy(2), 0);
         x.hold(-1);
         Due.is("none holds", x.happy(0), 5);
+    }
+
+    /** Workers are 72, cups 60: 9 each for 7 to 2, 6 for 1 and none for 0. */
+    private static void eightRooms() {
+        says("d (a ROOM; 2 .. 8),");
+        TeaTrolley x = Due.office("sk60;dx0w9;dx1w9;dx2w9;dx3w9;dx4w9;dx5w9;dx6w9;dx7w9", "76543210");
+        int[] cups = {0, 6, 9, 9, 9, 9, 9, 9};
+        for (int room = 0; room < 8; room++) {
+            Due.is("minutes " + room, x.comes(room, 0), 7 + 2 * (7 - room));
+            Due.is("heat " + room, x.comes(room, 1), 46 + room);
+            Due.is("cups " + room, x.comes(room, 2), cups[room]);
+            Due.is("shares " + room, x.shares(room, 60), cups[room]);
+            Due.is("thaw " + room, x.thaw(room), 44 - room);
+            Due.is("odds " + room, x.odds(room, 50), 1000000);
+            Due.is("season " + room, x.season(room), 2);
+            Due.is("steps " + room, x.steps(room, 7), 7 - room);
+            Due.is("nearest " + room, x.nearest(room), room == 0 ? 1 : room - 1);
+            Due.is("meet " + room, x.meet(room, 0), 7);
+            Due.is("place " + room, x.room(room, 1), room);
+            Due.is("game " + room, x.game(room, 7 - room, 1, 0, 0), room < 4 ? 6 : 7);
+            Due.is("rests " + room, x.rests(room, 7 - room, 2), 11);
+            Due.is("one row " + room, x.shortest(1 << room, 0), room);
+        }
+        int[] all = {0, 12, 22, 0, 0, 0};
+        for (int what = 0; what < 6; what++) {
+            Due.is("all " + what, x.all(what), all[what]);
+        }
+        Due.is("floor", x.floor(0), 255);
+        Due.is("happy", x.happy(0), 60);
+        Due.is("best", x.best(0), 1234567);
+        Due.is("best", x.best(1), 60);
+        Due.is("12 cups too few", x.shortest(255, 0), -1);
+        Due.is("six rooms", x.shortest(63, 0), 12345);
+        Due.is("nine in all rooms", x.seat(0), -1);
+        Due.is("workers", x.count(8), 72);
+    }
+
+    private static void allOfEightRooms() {
+        says("d (a ROOM; 2 .. 8),");
+        TeaTrolley x = Due.office("sk60;dx7w1;dx6w1;dx5w1;dx4w1;dx3w1;dx2w1;dx1w1;dx0w1", "76543210");
+        Due.is("seat", x.seat(0), 1);
+        Due.is("seat", x.seat(1), 8);
+        Due.is("move", x.move(0, 7, 1), 2);
+        Due.is("from 0 none", x.seat(0), 10);
+        Due.is("at minute 0 it is at the lift", x.ask(0), 7);
+        x.seen(7, 0, true);
+        Due.is("7 first", x.fits(-1), 5040);
+        Due.is("7 first", x.fits(0), 70123456);
+        Due.is("the last", x.fits(5039), 76543210);
+        Due.is("no second one", x.second(), 0);
+        for (int room = 0; room < 8; room++) {
+            Due.is("shut " + room, x.shut(room), true);
+        }
+        Due.is("all are shut", x.count(11), 255);
+        x.image();
+        Due.is("none has tea", x.day(), 0);
+        x.hold(-1);
+        x.day();
+        x.day();
+        Due.is("ice", x.all(5), 255);
+        Due.is("lost", x.all(4), 255);
+        Due.is("back", x.back(), 0);
+        Due.is("all are shut", x.count(11), 255);
+        for (int room = 0; room < 8; room++) {
+            Due.is("frost " + room, x.room(room, 5), 0);
+            Due.is("workers " + room, x.room(room, 2), room == 0 ? 0 : room == 7 ? 2 : 1);
+        }
+        x.decades(5, 5);
+        Due.is("five", x.count(12), 5);
     }
 
     private static void constants() {
