@@ -432,10 +432,12 @@ final class EdgeDays {
         }
     }
 
-    private static final long[] SEEDS = {0, 1, -1, 12345, Long.MAX_VALUE, Long.MIN_VALUE, 0x8000000000L, -987654321987L};
+    private static final long[] SEEDS = {0, 1, -1, 12345, Long.MAX_VALUE, Long.MIN_VALUE, 0x8000000000L,
+        -987654321987L};
 
     private static void draws() {
-        says("x, at first the seed, becomes x times 6364136223846793005 and 1442695040888963407 (64 bits, going round);");
+        says("x, at first the seed, becomes x times 6364136223846793005 and 1442695040888963407 "
+            + "(64 bits, going round);");
         for (long seed : SEEDS) {
             drawn(seed, 3, 8);
         }

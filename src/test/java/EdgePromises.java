@@ -55,7 +55,8 @@ final class EdgePromises {
     }
 
     private static void feed() {
-        says(2, "Twenty bytes more come to the TAPE (of each number the highest first; bytes of 0 are left out): how many it has.");
+        says(2, "Twenty bytes more come to the TAPE (of each number the highest first; bytes of 0 are left out): "
+            + "how many it has.");
         TeaTrolley x = new TeaTrolley();
         Due.is("none of twenty", x.feed(0, 0, 0, 0, 0), 0);
         Due.is("one", x.feed(0x30000000, 0, 0, 0, 0), 1);
@@ -196,8 +197,8 @@ final class EdgePromises {
         for (int i = 0; i < 4; i++) {
             Due.is("rule " + i, x.rule(i), now[i]);
         }
-        says(7, "Of a ROOM: 0 FLOOR, 1 steps from the lift, 2 WORKERS now, 3 how HOT, 4 minutes that it STOPS, 5 FROST, "
-            + "6 whether its DOOR is SHUT (1, 0).");
+        says(7, "Of a ROOM: 0 FLOOR, 1 steps from the lift, 2 WORKERS now, 3 how HOT, 4 minutes that it STOPS, "
+            + "5 FROST, 6 whether its DOOR is SHUT (1, 0).");
         x.move(1, 3, 1);
         x.shut(1);
         x.day();
@@ -420,8 +421,8 @@ final class EdgePromises {
     }
 
     private static void counts() {
-        says(43, "0 ROOMS, 1 LAWS, 2 ROUNDS, 3 bytes of the TAPE, 4 the LAW that holds (NONE), 5 the ROUND that holds (NONE), "
-            + "6 the DAY, 7 WORKS, 8 WORKERS of all, 9 WOBBLE, 10 DOORS seen, 11 DOORS that are SHUT (bits), "
+        says(43, "0 ROOMS, 1 LAWS, 2 ROUNDS, 3 bytes of the TAPE, 4 the LAW that holds (NONE), "
+            + "5 the ROUND that holds (NONE), 6 the DAY, 7 WORKS, 8 WORKERS of all, 9 WOBBLE, 10 DOORS seen, 11 DOORS that are SHUT (bits), "
             + "12 how long the LOG is, 13 ACTS that can be UNDONE.");
         TeaTrolley x = office();
         int[] first = {4, 0, 1, 0, -1, 0, 0, 0, 9, 0, 0, 0, 0, 0};

@@ -568,7 +568,8 @@ final class EdgeQuestions {
     }
 
     private static void season() {
-        says("SEASON of a ROOM: by HEAT as it COMES: 3 from 60 on, 2 from 40, 1 from 20, 0 below, or if it does not come.");
+        says("SEASON of a ROOM: by HEAT as it COMES: 3 from 60 on, 2 from 40, 1 from 20, 0 below, "
+            + "or if it does not come.");
         TeaTrolley x = Due.office("dx0;dx1", "0");
         int[][] due = {{99, 3}, {80, 3}, {61, 3}, {60, 3}, {59, 2}, {40, 2}, {39, 1}, {20, 1}, {19, 0}, {10, 0}};
         for (int[] d : due) {

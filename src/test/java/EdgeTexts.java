@@ -195,8 +195,8 @@ final class EdgeTexts {
         cools("y:7/2*3", 9);
         says("ATOM: a number (1 to 4 digits), a letter (m h f d k n), [ SUM ].");
         fine(1, "y:0", "y:9", "y:99", "y:999", "y:9999", "y:0000", "y:m+h+f+d+k+n", "y:[1]", "y:[1+[2*m]]");
-        wrongAt(1, "y:1234#5", "y:0000#0", "y:#x", "y:#s", "y:#y", "y:#M", "y:[#]", "y:[1#", "y:[1#)", "y:1#]", "y:[1]#]",
-            "y:[1]#[1]", "y:[1]#1", "y:1#[1]", "y:[m#=1]?1", "y:[#!m=1]?1", "y:[#(1)]", "y:m=1?#(1)", "y:m=1?#!1");
+        wrongAt(1, "y:1234#5", "y:0000#0", "y:#x", "y:#s", "y:#y", "y:#M", "y:[#]", "y:[1#", "y:[1#)", "y:1#]",
+            "y:[1]#]", "y:[1]#[1]", "y:[1]#1", "y:1#[1]", "y:[m#=1]?1", "y:[#!m=1]?1", "y:[#(1)]", "y:m=1?#(1)", "y:m=1?#!1");
         cools("y:20-[5-3]", 18);
         cools("y:[2+3]*4", 20);
     }
@@ -329,8 +329,8 @@ final class EdgeTexts {
 
     private static void faultsOfOffices() {
         says("a number out of bounds is wrong at its last digit,");
-        wrongAt(0, "sh#9;d;dx2", "sh#9", "sh0#9;d;dx2", "sc1#0;d", "sp#0;d", "sp#6;d", "sp9#9;d", "sk#0;d", "sk0#0;d", "sk6#1;d",
-            "df#4;d", "df1#0;d", "dx1#0;d", "dw1#0;d", "ds9#9", "sh#9 ;d");
+        wrongAt(0, "sh#9;d;dx2", "sh#9", "sh0#9;d;dx2", "sc1#0;d", "sp#0;d", "sp#6;d", "sp9#9;d", "sk#0;d", "sk0#0;d",
+            "sk6#1;d", "df#4;d", "df1#0;d", "dx1#0;d", "dw1#0;d", "ds9#9", "sh#9 ;d");
         says("a third digit (whatever stands ahead of it; a fifth one in a LAW) itself,");
         wrongAt(0, "sh10#0;d", "sh00#0;d", "sh01#0;d", "sp00#1;d", "df99#9;d", "dx00#0", "dn12#3456;d");
         wrongAt(1, "y:1234#5", "y:0000#1", "y:9999#99", "y:m=0000#0?1", "y:[1234#5]");
@@ -347,6 +347,7 @@ final class EdgeTexts {
         says("a digit of a ROUND that was there or is above 7,");
         wrongAt(2, "0#0", "0 #0", "701234#7", "#8", "0#9", "01234567#1", "01234567 #9");
         says("a seventh of ( [ ! in a LAW at it.");
-        wrongAt(1, "y:!!!!!!#!m=1?1", "y:((((((#(m=1)))))))?1", "y:[[[[[[#[m]]]]]]]", "y:!(!(!(#[m]=1)))?1", "y:!!!!!! #!");
+        wrongAt(1, "y:!!!!!!#!m=1?1", "y:((((((#(m=1)))))))?1", "y:[[[[[[#[m]]]]]]]", "y:!(!(!(#[m]=1)))?1",
+            "y:!!!!!! #!");
     }
 }

@@ -177,7 +177,9 @@ final class Refusals {
 
     private static void questions(TeaTrolley x, List<Long> answers) {
         for (int room = 0; room < 3; room++) {
-            answers.add(room(x, room, 0) + 100 * room(x, room, 1) + 10000 * room(x, room, 3) + 1000000 * room(x, room, 4));
+            for (int what : new int[] {0, 1, 3, 4}) {
+                answers.add(room(x, room, what));
+            }
             answers.add((long) x.comes(room, 0));
             answers.add((long) x.comes(room, 1));
             answers.add((long) x.comes(room, 2));
