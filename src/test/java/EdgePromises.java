@@ -422,8 +422,8 @@ final class EdgePromises {
 
     private static void counts() {
         says(43, "0 ROOMS, 1 LAWS, 2 ROUNDS, 3 bytes of the TAPE, 4 the LAW that holds (NONE), "
-            + "5 the ROUND that holds (NONE), 6 the DAY, 7 WORKS, 8 WORKERS of all, 9 WOBBLE, 10 DOORS seen, 11 DOORS that are SHUT (bits), "
-            + "12 how long the LOG is, 13 ACTS that can be UNDONE.");
+            + "5 the ROUND that holds (NONE), 6 the DAY, 7 WORKS, 8 WORKERS of all, 9 WOBBLE, 10 DOORS seen, "
+            + "11 DOORS that are SHUT (bits), 12 how long the LOG is, 13 ACTS that can be UNDONE.");
         TeaTrolley x = office();
         int[] first = {4, 0, 1, 0, -1, 0, 0, 0, 9, 0, 0, 0, 0, 0};
         for (int i = 0; i < 14; i++) {

@@ -60,6 +60,7 @@ final class Oracle {
     private World w = null;
     private World image = null;
     private final List<String> laws = new ArrayList<>();
+    private final Map<List<Integer>, Integer> worths = new HashMap<>();
     private final List<String> rounds = new ArrayList<>();
     private int law = NONE, round = NONE, wobble = 0;
     private Deque<World> acts = new ArrayDeque<>();
@@ -442,14 +443,7 @@ final class Oracle {
             int m = d * w.pace + ((wobbles >> been & 1) == 1 ? w.pace : 0);
             int cool = m * w.cools;
             if (law >= 0) {
-                Map<Character, Integer> letters = new HashMap<>();
-                letters.put('m', m);
-                letters.put('h', h);
-                letters.put('f', r.f);
-                letters.put('d', d);
-                letters.put('k', t.left);
-                letters.put('n', been);
-                cool = Math.max(0, Math.min(99, worth(laws.get(law), letters)));
+                cool = Math.max(0, Math.min(99, worthBy(List.of(law, m, h, r.f, d, t.left, been))));
             }
             h = Math.max(0, h - cool);
             t.minutes += m;
@@ -464,6 +458,21 @@ final class Oracle {
             x = r.x;
         }
         return t;
+    }
+
+    /** By the law and its letters m h f d k n; kept, as the rows of eight rooms ask the same again and again. */
+    private int worthBy(List<Integer> asked) {
+        Integer kept = worths.get(asked);
+        if (kept != null) {
+            return kept;
+        }
+        Map<Character, Integer> letters = new HashMap<>();
+        for (int i = 0; i < 6; i++) {
+            letters.put("mhfdkn".charAt(i), asked.get(i + 1));
+        }
+        int worth = worth(laws.get(asked.get(0)), letters);
+        worths.put(asked, worth);
+        return worth;
     }
 
     private List<Integer> rowOf(String text) {
