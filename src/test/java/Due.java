@@ -25,6 +25,10 @@ final class Due {
         is(call, got ? 1 : 0, want ? 1 : 0);
     }
 
+    static void is(String call, String got, String want) {
+        is(call + " (it answered " + got + ")", got.equals(want), true);
+    }
+
     /** Prints the count; leaves with 1, if an answer was wrong. */
     static void close(String test) {
         System.out.println(test + ": " + right + " right, " + wrong + " wrong");
